@@ -18,6 +18,7 @@ public final class ClassHouse {
     private final Classes classes;
     private final Reader reader;
     private final Checker checker;
+    private final Typer typer;
     private final Input numbers;
     private final Machine machine;
     private int tapeSize;
@@ -31,7 +32,8 @@ public final class ClassHouse {
         Members members = new Members(classes);
         Code code = new Code();
         reader = new Reader(words, classes, members, code);
-        checker = new Checker(classes, members, code);
+        checker = new Checker(classes, members);
+        typer = new Typer(classes, members, code);
         numbers = new Input();
         machine = new Machine(classes, members, code, numbers);
         tapeSize = 0;
@@ -77,6 +79,9 @@ public final class ClassHouse {
             return -1 - wrong;
         }
         int bad = checker.check(length);
+        if (bad < 0) {
+            bad = typer.check();
+        }
         if (bad >= 0) {
             return BAD_BASE - bad;
         }
@@ -250,18 +255,6 @@ public final class ClassHouse {
             nameTo = new int[LIMIT];
             nameNext = new int[LIMIT];
             nameHeads = new int[HEADS];
-        }
-
-        int kindAt(int i) {
-            return i >= 0 && i < size ? kinds[i] : END;
-        }
-
-        int valueAt(int i) {
-            return i >= 0 && i < size ? values[i] : 0;
-        }
-
-        int placeAt(int i) {
-            return i >= 0 && i < size ? places[i] : 0;
         }
 
         void split(int[] tape, int length) {
@@ -481,19 +474,14 @@ public final class ClassHouse {
             return size - BUILT_IN;
         }
 
-        /** The first class of the name, or NONE. */
+        /** The first class of the name, or UNKNOWN. */
         int find(int itsName) {
             for (int c = 0; c < size; c++) {
                 if (name[c] == itsName) {
                     return c;
                 }
             }
-            return NONE;
-        }
-
-        int typeOfName(int itsName) {
-            int c = find(itsName);
-            return c == NONE ? UNKNOWN : c;
+            return UNKNOWN;
         }
 
         int parentOf(int c) {
@@ -612,7 +600,7 @@ public final class ClassHouse {
         }
 
         private int resolved(int told) {
-            return told >= 0 ? classes.typeOfName(told) : told;
+            return told >= 0 ? classes.find(told) : told;
         }
 
         /** A member of this kind and name among those from .. to - 1, or NONE. */
@@ -785,10 +773,13 @@ public final class ClassHouse {
             return size > from ? op[size - 1] : NONE;
         }
 
-        void dropLast() {
-            if (size > 0) {
-                size--;
+        /** Answers the name that the piece told. */
+        int takeBackLast() {
+            if (size == 0) {
+                return NONE;
             }
+            size--;
+            return a[size];
         }
 
         boolean has(int at) {
@@ -810,6 +801,7 @@ public final class ClassHouse {
         private static final int RELATED = 4;
         private static final int SUMS = 5;
         private static final int PRODUCTS = 6;
+        private static final int ONES = 7;
         private static final int FINE = -1;
 
         private final Words words;
@@ -821,6 +813,7 @@ public final class ClassHouse {
         private final int[] waitingMark;
         private int waiting;
         private int at;
+        private int kind;
         private int nest;
         private int wrong;
 
@@ -836,125 +829,140 @@ public final class ClassHouse {
 
         /** Answers the place where the program is wrong, or -1. */
         int read() {
+            begin();
+            boolean more = true;
+            for (int guard = 0; guard < Words.LIMIT && more; guard++) {
+                take(Words.CLASS);
+                int place = words.places[at];
+                int name = takeName();
+                int parentName = Classes.NONE;
+                if (kind == ':') {
+                    advance();
+                    parentName = takeName();
+                }
+                classes.add(name, place, parentName, members.size);
+                readMembers();
+                classes.closeLast(members.size);
+                more = kind == Words.CLASS;
+            }
+            take(Words.END);
+            return wrong;
+        }
+
+        private void begin() {
             at = 0;
+            kind = words.kinds[0];
             nest = 0;
             waiting = 0;
             wrong = FINE;
             classes.clear();
             members.clear();
             code.clear();
-            readClass();
-            for (int guard = 0; guard < Words.LIMIT && kind() == Words.CLASS; guard++) {
-                readClass();
+        }
+
+        private void advance() {
+            if (wrong == FINE && at + 1 < words.size) {
+                at++;
+                kind = words.kinds[at];
             }
-            take(Words.END);
-            return wrong;
         }
 
         /** Behind the wrong place no word fits anywhere, so that all reading ends by itself. */
-        private int kind() {
-            return wrong == FINE ? words.kindAt(at) : Words.WRONG;
-        }
-
-        private int placeHere() {
-            return words.placeAt(at);
-        }
-
         private void fail() {
             if (wrong == FINE) {
-                wrong = placeHere();
+                wrong = words.places[at];
+                kind = Words.WRONG;
             }
         }
 
         private void take(int wanted) {
-            if (kind() == wanted) {
-                at++;
+            if (kind == wanted) {
+                advance();
             } else {
                 fail();
             }
         }
 
         private int takeName() {
-            int name = words.valueAt(at);
-            take(Words.NAME);
+            int name = words.values[at];
+            if (kind == Words.NAME) {
+                advance();
+            } else {
+                fail();
+            }
             return name;
         }
 
         private void open(int wanted) {
-            if (nest >= NEST_LIMIT) {
+            if (kind == wanted && nest < NEST_LIMIT) {
+                advance();
+            } else {
                 fail();
             }
-            take(wanted);
             nest++;
         }
 
         private void close(int wanted) {
-            take(wanted);
+            if (kind == wanted) {
+                advance();
+            } else {
+                fail();
+            }
             nest--;
         }
 
+        /** A class is told by its name as yet, for it may stand further behind in the text. */
         private int takeType() {
-            int k = kind();
-            if (k == Words.NAME) {
-                return takeName();
+            int type = Classes.UNKNOWN;
+            if (kind == Words.NAME) {
+                type = words.values[at];
+            } else if (kind == Words.INT) {
+                type = Classes.INT;
+            } else if (kind == Words.BOOL) {
+                type = Classes.BOOL;
+            } else if (kind == Words.INTS) {
+                type = Classes.INTS;
             }
-            if (!isPlainType(k)) {
+            if (type == Classes.UNKNOWN) {
                 fail();
+            } else {
+                advance();
             }
-            at++;
-            return k == Words.INT ? Classes.INT : k == Words.BOOL ? Classes.BOOL : Classes.INTS;
+            return type;
         }
 
-        private static boolean isPlainType(int k) {
-            return k == Words.INT || k == Words.BOOL || k == Words.INTS;
-        }
-
-        private void readClass() {
-            take(Words.CLASS);
-            int place = placeHere();
-            int name = takeName();
-            int parentName = Classes.NONE;
-            if (kind() == ':') {
-                at++;
-                parentName = takeName();
-            }
-            classes.add(name, place, parentName, members.size);
+        private void readMembers() {
             open('{');
-            for (int guard = 0; guard < Words.LIMIT && wrong == FINE && kind() != '}'; guard++) {
-                readMember();
+            for (int guard = 0; guard < Words.LIMIT && wrong == FINE && kind != '}'; guard++) {
+                boolean isVoid = kind == Words.VOID;
+                int type = Classes.VOID;
+                if (isVoid) {
+                    advance();
+                } else {
+                    type = takeType();
+                }
+                int place = words.places[at];
+                int name = takeName();
+                boolean isField = !isVoid && kind == ';';
+                members.add(name, place, type, !isField);
+                if (isField) {
+                    advance();
+                } else {
+                    readParameters();
+                    members.codeOfLast(code.size);
+                    code.statement = readBlock();
+                    code.emit(Code.CLOSE, 0, 0);
+                }
             }
             close('}');
-            classes.closeLast(members.size);
-        }
-
-        private void readMember() {
-            boolean isVoid = kind() == Words.VOID;
-            int type = Classes.VOID;
-            if (isVoid) {
-                at++;
-            } else {
-                type = takeType();
-            }
-            int place = placeHere();
-            int name = takeName();
-            if (!isVoid && kind() == ';') {
-                at++;
-                members.add(name, place, type, false);
-                return;
-            }
-            members.add(name, place, type, true);
-            readParameters();
-            members.codeOfLast(code.size);
-            code.statement = readBlock();
-            code.emit(Code.CLOSE, 0, 0);
         }
 
         private void readParameters() {
             open('(');
-            if (kind() != ')') {
+            if (kind != ')') {
                 readParameter();
-                for (int guard = 0; guard < Words.LIMIT && kind() == ','; guard++) {
-                    at++;
+                for (int guard = 0; guard < Words.LIMIT && kind == ','; guard++) {
+                    advance();
                     readParameter();
                 }
             }
@@ -969,17 +977,17 @@ public final class ClassHouse {
         /** Answers the place of the block's last word. */
         private int readBlock() {
             open('{');
-            for (int guard = 0; guard < Words.LIMIT && wrong == FINE && kind() != '}'; guard++) {
+            for (int guard = 0; guard < Words.LIMIT && wrong == FINE && kind != '}'; guard++) {
                 readStatement();
             }
-            int place = placeHere();
+            int place = words.places[at];
             close('}');
             return place;
         }
 
         private void readStatement() {
-            code.statement = placeHere();
-            switch (kind()) {
+            code.statement = words.places[at];
+            switch (kind) {
                 case Words.IF:
                     readIf();
                     break;
@@ -993,24 +1001,26 @@ public final class ClassHouse {
                     readReturn();
                     break;
                 case Words.THROW:
-                    readWorker(Code.THROW);
+                    readWork(Code.THROW);
                     break;
                 case Words.PRINT:
-                    readWorker(Code.PRINT);
+                    readWork(Code.PRINT);
                     break;
                 default:
-                    readPlainStatement();
+                    if (tellsVariable()) {
+                        readVariable();
+                    } else {
+                        readCallOrGift();
+                    }
                     break;
             }
         }
 
-        private void readPlainStatement() {
-            boolean twoNames = kind() == Words.NAME && words.kindAt(at + 1) == Words.NAME;
-            if (twoNames || isPlainType(kind())) {
-                readVariable();
-            } else {
-                readCallOrGift();
+        private boolean tellsVariable() {
+            if (kind == Words.NAME) {
+                return at + 1 < words.size && words.kinds[at + 1] == Words.NAME;
             }
+            return kind == Words.INT || kind == Words.BOOL || kind == Words.INTS;
         }
 
         private void readBracketed() {
@@ -1020,15 +1030,15 @@ public final class ClassHouse {
         }
 
         private void readIf() {
-            at++;
+            advance();
             readBracketed();
             int jump = code.emit(Code.IF, 0, 0);
             readBlock();
-            if (kind() != Words.ELSE) {
+            if (kind != Words.ELSE) {
                 code.target[jump] = code.emit(Code.END_IF, 0, 0);
                 return;
             }
-            at++;
+            advance();
             int over = code.emit(Code.ELSE, 0, 0);
             code.target[jump] = code.size;
             readBlock();
@@ -1036,7 +1046,7 @@ public final class ClassHouse {
         }
 
         private void readWhile() {
-            at++;
+            advance();
             int again = code.size;
             readBracketed();
             int jump = code.emit(Code.WHILE, 0, 0);
@@ -1048,7 +1058,7 @@ public final class ClassHouse {
 
         private void readTry() {
             int place = code.statement;
-            at++;
+            advance();
             int around = code.openTry;
             int opened = code.emit(Code.TRY, 0, 0);
             code.openTry = opened;
@@ -1059,6 +1069,7 @@ public final class ClassHouse {
             int className = takeName();
             int name = takeName();
             close(')');
+            // What is bad about these names is told by the place of the whole statement.
             code.statement = place;
             int caught = code.emit(Code.CATCH, className, name);
             code.a[opened] = caught;
@@ -1067,8 +1078,8 @@ public final class ClassHouse {
         }
 
         private void readReturn() {
-            at++;
-            if (kind() == ';') {
+            advance();
+            if (kind == ';') {
                 code.emit(Code.RETURN, 0, 0);
             } else {
                 readExpression();
@@ -1077,8 +1088,8 @@ public final class ClassHouse {
             take(';');
         }
 
-        private void readWorker(int op) {
-            at++;
+        private void readWork(int op) {
+            advance();
             readExpression();
             code.emit(op, 0, 0);
             take(';');
@@ -1087,8 +1098,8 @@ public final class ClassHouse {
         private void readVariable() {
             int type = takeType();
             int name = takeName();
-            if (kind() == '=') {
-                at++;
+            if (kind == '=') {
+                advance();
                 readExpression();
                 code.emit(Code.TELL_GIVEN, name, type);
             } else {
@@ -1101,13 +1112,13 @@ public final class ClassHouse {
             int from = code.size;
             readExpression();
             int last = code.lastOp(from);
-            if (kind() == '=' && giving(last) != Code.NONE) {
-                int name = code.a[code.size - 1];
-                code.dropLast();
-                at++;
+            int gift = giftOf(last);
+            if (kind == '=' && gift != Code.NONE) {
+                int name = code.takeBackLast();
+                advance();
                 readExpression();
-                code.emit(giving(last), name, 0);
-            } else if (kind() == ';' && last == Code.CALL) {
+                code.emit(gift, name, 0);
+            } else if (kind == ';' && last == Code.CALL) {
                 code.emit(Code.DROP, 0, 0);
             } else {
                 fail();
@@ -1116,7 +1127,7 @@ public final class ClassHouse {
         }
 
         /** What gives a value to the place that this piece would take it from. */
-        private static int giving(int op) {
+        private static int giftOf(int op) {
             switch (op) {
                 case Code.NAME:
                     return Code.GIVE_NAME;
@@ -1133,10 +1144,12 @@ public final class ClassHouse {
         private void readExpression() {
             int base = waiting;
             readOne();
-            int level = levelOf(kind());
-            for (int guard = 0; guard < Words.LIMIT && level > 0 && fits(base, level); guard++) {
+            int level = levelOf(kind);
+            release(base, leastReleased(level));
+            for (int guard = 0; guard < Words.LIMIT && fits(base, level); guard++) {
                 readSign(level);
-                level = levelOf(kind());
+                level = levelOf(kind);
+                release(base, leastReleased(level));
             }
             release(base, 0);
         }
@@ -1193,28 +1206,31 @@ public final class ClassHouse {
             }
         }
 
-        /** EQUAL and RELATED have one sign at most, and nothing binds to what stands behind is. */
+        /** EQUAL and RELATED have one sign at most, so theirs wait on to meet a second one. */
+        private static int leastReleased(int level) {
+            return level == EQUALS || level == RELATED ? level + 1 : level;
+        }
+
         private boolean fits(int base, int level) {
-            boolean once = level == EQUALS || level == RELATED;
-            release(base, once ? level + 1 : level);
-            if (waiting <= base) {
-                return true;
+            if (level == 0 || waiting <= base) {
+                return level > 0;
             }
             return waitingLevel[waiting - 1] < level && waitingOp[waiting - 1] != Code.IS;
         }
 
         private void readSign(int level) {
-            int k = kind();
-            at++;
-            if (k == Words.IS) {
+            int op = opOf(kind);
+            boolean isIs = kind == Words.IS;
+            advance();
+            if (isIs) {
                 await(Code.IS, level, takeName());
                 return;
             }
             int mark = 0;
             if (level == ORS || level == ANDS) {
-                mark = code.emit(opOf(k), 0, 0);
+                mark = code.emit(op, 0, 0);
             }
-            await(opOf(k), level, mark);
+            await(op, level, mark);
             readOne();
         }
 
@@ -1242,16 +1258,16 @@ public final class ClassHouse {
 
         private void readOne() {
             int base = waiting;
-            for (int guard = 0; guard < Words.LIMIT && (kind() == '-' || kind() == '!'); guard++) {
-                await(kind() == '-' ? Code.MINUS : Code.NOT, PRODUCTS + 1, 0);
-                open(kind());
+            for (int guard = 0; guard < Words.LIMIT && (kind == '-' || kind == '!'); guard++) {
+                await(kind == '-' ? Code.MINUS : Code.NOT, ONES, 0);
+                open(kind);
             }
             readFirst();
-            for (int guard = 0; guard < Words.LIMIT && isBehindFirst(kind()); guard++) {
+            for (int guard = 0; guard < Words.LIMIT && isBehindFirst(kind); guard++) {
                 readBehind();
             }
             nest -= waiting - base;
-            release(base, 0);
+            release(base, ONES);
         }
 
         private static boolean isBehindFirst(int k) {
@@ -1259,17 +1275,17 @@ public final class ClassHouse {
         }
 
         private void readBehind() {
-            int k = kind();
-            if (k == '[') {
+            if (kind == '[') {
                 readIndex();
                 code.emit(Code.ELEMENT, 0, 0);
                 return;
             }
-            at++;
+            boolean isAs = kind == Words.AS;
+            advance();
             int name = takeName();
-            if (k == Words.AS) {
+            if (isAs) {
                 code.emit(Code.AS, name, 0);
-            } else if (kind() == '(') {
+            } else if (kind == '(') {
                 int arguments = readArguments();
                 code.emit(Code.CALL, name, arguments);
             } else {
@@ -1286,11 +1302,11 @@ public final class ClassHouse {
         private int readArguments() {
             int arguments = 0;
             open('(');
-            if (kind() != ')') {
+            if (kind != ')') {
                 readExpression();
                 arguments++;
-                for (int guard = 0; guard < Words.LIMIT && kind() == ','; guard++) {
-                    at++;
+                for (int guard = 0; guard < Words.LIMIT && kind == ','; guard++) {
+                    advance();
                     readExpression();
                     arguments++;
                 }
@@ -1300,9 +1316,9 @@ public final class ClassHouse {
         }
 
         private void readFirst() {
-            switch (kind()) {
+            switch (kind) {
                 case Words.NUMBER:
-                    readSingle(Code.NUMBER, words.valueAt(at));
+                    readSingle(Code.NUMBER, words.values[at]);
                     break;
                 case Words.TRUE:
                     readSingle(Code.TRUTH, 1);
@@ -1335,13 +1351,13 @@ public final class ClassHouse {
         }
 
         private void readSingle(int op, int value) {
-            at++;
+            advance();
             code.emit(op, value, 0);
         }
 
         private void readNamed() {
             int name = takeName();
-            if (kind() != '(') {
+            if (kind != '(') {
                 code.emit(Code.NAME, name, 0);
                 return;
             }
@@ -1351,9 +1367,9 @@ public final class ClassHouse {
         }
 
         private void readNew() {
-            at++;
-            if (kind() == Words.INTS) {
-                at++;
+            advance();
+            if (kind == Words.INTS) {
+                advance();
                 readIndex();
                 code.emit(Code.ROW, 0, 0);
             } else {
@@ -1439,7 +1455,7 @@ public final class ClassHouse {
 
         void open() {
             if (level < LEVELS) {
-                copyBits(set, setAhead[level]);
+                System.arraycopy(set, 0, setAhead[level], 0, BIT_ROW);
                 deadAhead[level] = dead;
                 sizeAhead[level] = size;
                 level++;
@@ -1449,7 +1465,7 @@ public final class ClassHouse {
         /** From the end of one block to the beginning of the other that began as it did. */
         void turn() {
             if (level > 0) {
-                copyBits(set, setBehind[level - 1]);
+                System.arraycopy(set, 0, setBehind[level - 1], 0, BIT_ROW);
                 deadBehind[level - 1] = dead;
                 restore();
             }
@@ -1471,7 +1487,7 @@ public final class ClassHouse {
             level--;
             size = sizeAhead[level];
             if (dead) {
-                copyBits(setBehind[level], set);
+                System.arraycopy(setBehind[level], 0, set, 0, BIT_ROW);
                 dead = deadBehind[level];
             } else if (!deadBehind[level]) {
                 for (int i = 0; i < BIT_ROW; i++) {
@@ -1481,28 +1497,22 @@ public final class ClassHouse {
         }
 
         private void restore() {
-            copyBits(setAhead[level - 1], set);
+            System.arraycopy(setAhead[level - 1], 0, set, 0, BIT_ROW);
             dead = deadAhead[level - 1];
             size = sizeAhead[level - 1];
         }
-
-        private static void copyBits(int[] from, int[] to) {
-            System.arraycopy(from, 0, to, 0, BIT_ROW);
-        }
     }
 
-    /** Looks for what is bad: the classes, then the members, then Main, then the statements. */
+    /** Looks for what is bad in classes, then in members, then whether there is a main. */
     private static final class Checker {
         private static final int FINE = -1;
 
         private final Classes classes;
         private final Members members;
-        private final Typer typer;
 
-        Checker(Classes allClasses, Members allMembers, Code allCode) {
+        Checker(Classes allClasses, Members allMembers) {
             classes = allClasses;
             members = allMembers;
-            typer = new Typer(allClasses, allMembers, allCode);
         }
 
         /** Answers the first place that is bad, or -1. */
@@ -1516,11 +1526,8 @@ public final class ClassHouse {
             if (bad != FINE) {
                 return bad;
             }
-            if (!hasMain()) {
-                return length;
-            }
             members.layOutFields();
-            return badMethod();
+            return hasMain() ? FINE : length;
         }
 
         private int badClass() {
@@ -1531,10 +1538,11 @@ public final class ClassHouse {
             }
             for (int c = Classes.BUILT_IN; c < classes.size; c++) {
                 if (classes.parentName[c] != Classes.NONE) {
-                    classes.parent[c] = classes.find(classes.parentName[c]);
-                    if (classes.parent[c] == Classes.NONE) {
+                    int parent = classes.find(classes.parentName[c]);
+                    if (parent == Classes.UNKNOWN) {
                         return classes.place[c];
                     }
+                    classes.parent[c] = parent;
                 }
             }
             for (int c = Classes.BUILT_IN; c < classes.size; c++) {
@@ -1617,18 +1625,6 @@ public final class ClassHouse {
             int m = members.had(c, true, Words.NAME_MAIN);
             return m != Classes.NONE && members.type[m] == Classes.INT && members.parameters[m] == 0;
         }
-
-        private int badMethod() {
-            for (int c = Classes.BUILT_IN; c < classes.size; c++) {
-                for (int m = classes.from[c]; m < classes.to[c]; m++) {
-                    int bad = members.method[m] ? typer.badPlace(c, m) : FINE;
-                    if (bad != FINE) {
-                        return bad;
-                    }
-                }
-            }
-            return FINE;
-        }
     }
 
     /** Goes through a method's code with a pile of types, as the machine will with words. */
@@ -1653,8 +1649,28 @@ public final class ClassHouse {
             types = new int[Code.LIMIT];
         }
 
-        /** Answers the first bad place of the method, or -1. */
-        int badPlace(int c, int m) {
+        /** Answers the first bad place of all methods, or -1. */
+        int check() {
+            for (int c = Classes.BUILT_IN; c < classes.size; c++) {
+                for (int m = classes.from[c]; m < classes.to[c]; m++) {
+                    if (members.method[m]) {
+                        enter(c, m);
+                        int closing = codeEnd(members.codeFrom[m]);
+                        for (int at = members.codeFrom[m]; at <= closing; at++) {
+                            code.variables[at] = scope.size;
+                            if (!isFine(at, code.op[at])) {
+                                return code.place[at];
+                            }
+                        }
+                        members.slots[m] = scope.most;
+                        members.depth[m] = deepest;
+                    }
+                }
+            }
+            return FINE;
+        }
+
+        private void enter(int c, int m) {
             self = c;
             result = members.type[m];
             top = 0;
@@ -1663,17 +1679,15 @@ public final class ClassHouse {
             for (int i = 0; i < members.parameters[m]; i++) {
                 scope.add(members.parameterNameOf(m, i), members.parameterTypeOf(m, i), true);
             }
-            boolean closed = false;
-            for (int at = members.codeFrom[m]; at < code.size && !closed; at++) {
-                closed = code.op[at] == Code.CLOSE;
-                code.variables[at] = scope.size;
-                if (!isFine(at, code.op[at])) {
-                    return code.place[at];
-                }
+        }
+
+        /** Where the last piece of the method stands whose code begins at from. */
+        private int codeEnd(int from) {
+            int at = from;
+            while (at < code.size - 1 && code.op[at] != Code.CLOSE) {
+                at++;
             }
-            members.slots[m] = scope.most;
-            members.depth[m] = deepest;
-            return FINE;
+            return at;
         }
 
         private boolean isFine(int at, int op) {
@@ -1778,7 +1792,7 @@ public final class ClassHouse {
         }
 
         private int classNamed(int at) {
-            code.a[at] = classes.typeOfName(code.a[at]);
+            code.a[at] = classes.find(code.a[at]);
             return code.a[at];
         }
 
@@ -1875,7 +1889,7 @@ public final class ClassHouse {
 
         private int variableType(int at) {
             int told = code.b[at];
-            return told >= 0 ? classes.typeOfName(told) : told;
+            return told >= 0 ? classes.find(told) : told;
         }
 
         private boolean tell(int at, boolean given) {
@@ -1958,10 +1972,11 @@ public final class ClassHouse {
         static final long REFERENCE = 1L << 32;
         static final long LOW = REFERENCE - 1;
         static final int HEAD = 2;
+        // What stands in an object's first cell in the stead of a class.
+        static final int ROW = -1;
 
-        private static final int ROW = -1;
         private static final int MOVED = -2;
-        // The objects that faults throw lie ahead of the cells and are never moved.
+        // The objects of faults lie ahead of the cells and are never moved.
         private static final int FIRST = Classes.BUILT_IN + 1;
         private static final int SIZE = MOST_HEAP + FIRST;
 
@@ -2013,10 +2028,6 @@ public final class ClassHouse {
             Arrays.fill(cells, address + HEAD, address + HEAD + fields, 0L);
             used = address + HEAD + fields;
             return REFERENCE | address;
-        }
-
-        long makeRow(int length) {
-            return makeObject(ROW, length);
         }
 
         int classOf(long object) {
@@ -2101,10 +2112,12 @@ public final class ClassHouse {
         private static final int METHODS = 100;
         private static final int PRINTS = 500;
         private static final int FIRST_PILE = 2000;
-        // No pile of 100 methods of one text is longer.
+        // A text of 3000 bytes tells no more than some 2300 words for each of 100 open methods.
         private static final int MOST_PILE = 400000;
         // Far more than the pieces without a STEP that can follow one another.
         private static final int SILENT_LIMIT = 1000000;
+        // What a STEP answers that throws nothing.
+        private static final long NO_OBJECT = 0;
 
         private final Classes classes;
         private final Members members;
@@ -2171,23 +2184,30 @@ public final class ClassHouse {
             return cells.cellsUsed();
         }
 
+        /** To be called only when there is a program. */
         void begin(int heapSize) {
             forget();
-            ended = RUNNING;
             int c = classes.find(Words.NAME_MAIN_CLASS);
-            int size = Heap.HEAD + classes.fields[c];
-            cells.clear(Math.max(heapSize, size));
-            made = size;
+            int m = members.had(c, true, Words.NAME_MAIN);
+            if (c < 0 || m < 0) {
+                return;
+            }
+            ended = RUNNING;
+            made = Heap.HEAD + classes.fields[c];
+            cells.clear(Math.max(heapSize, made));
             push(cells.makeObject(c, classes.fields[c]));
-            openMethod(members.had(c, true, Words.NAME_MAIN), 0);
+            openMethod(m, 0);
             settle();
         }
 
         /** Answers how the run ended, 0 if it did not, -1 if none was begun. */
         int run(int n) {
-            for (int i = 0; i < n && ended == RUNNING; i++) {
+            for (int i = 0; i < n && ended == RUNNING && code.has(next); i++) {
                 steps++;
-                act();
+                long flying = act();
+                if (flying != NO_OBJECT) {
+                    throwObject(flying);
+                }
                 settle();
             }
             return ended;
@@ -2200,8 +2220,14 @@ public final class ClassHouse {
             }
         }
 
-        private void pushTruth(boolean truth) {
+        private long pushNumber(int value) {
+            push(Heap.number(value));
+            return NO_OBJECT;
+        }
+
+        private long pushTruth(boolean truth) {
             push(truth ? 1L : 0L);
+            return NO_OBJECT;
         }
 
         private long pop() {
@@ -2216,26 +2242,34 @@ public final class ClassHouse {
             return Math.min(base[depth - 1] + v, pile.length - 1);
         }
 
-        private void act() {
+        /** Answers the object that the STEP throws, or none. */
+        private long act() {
             int here = next;
             at[depth - 1] = here;
             next = here + 1;
             int op = code.op[here];
             if (op <= Code.OWN) {
-                actValue(op, code.a[here]);
-            } else if (op <= Code.IS) {
-                actPart(op, code.a[here]);
-            } else if (op <= Code.NOT) {
-                actOneSided(op);
-            } else if (op <= Code.OTHER) {
-                actTwoSided(op);
-            } else if (op <= Code.OR) {
-                actJoin(op, code.target[here]);
-            } else if (op <= Code.TELL_GIVEN) {
-                actGift(op, here);
-            } else {
-                actWork(op, code.target[here]);
+                return actValue(op, code.a[here]);
             }
+            if (op == Code.NEW || op == Code.ROW) {
+                return make(op, code.a[here]);
+            }
+            if (op <= Code.IS) {
+                return actPart(op, code.a[here]);
+            }
+            if (op <= Code.OTHER) {
+                return actSign(op, pop());
+            }
+            if (op <= Code.OR) {
+                return actJoin(op, code.target[here]);
+            }
+            if (op == Code.CALL) {
+                return call(code.a[here], code.b[here]);
+            }
+            if (op <= Code.TELL_GIVEN) {
+                return actGift(op, code.a[here], pop());
+            }
+            return actWork(op, code.target[here]);
         }
 
         /** What is no STEP is done at once behind the STEP ahead of it. */
@@ -2270,7 +2304,7 @@ public final class ClassHouse {
             }
         }
 
-        private void actValue(int op, int a) {
+        private long actValue(int op, int a) {
             switch (op) {
                 case Code.NUMBER:
                 case Code.TRUTH:
@@ -2292,84 +2326,57 @@ public final class ClassHouse {
                     push(cells.at(self[depth - 1], a));
                     break;
             }
+            return NO_OBJECT;
         }
 
-        private void actPart(int op, int a) {
+        private long actPart(int op, int a) {
             switch (op) {
                 case Code.FIELD:
-                    takeField(pop(), a);
-                    break;
+                    return takeField(pop(), a);
                 case Code.LENGTH:
-                    takeLength(pop());
-                    break;
+                    return takeLength(pop());
                 case Code.ELEMENT:
-                    takeElement((int) pop(), pop());
-                    break;
-                case Code.NEW:
-                    if (findRoom(classes.fields[a])) {
-                        push(cells.makeObject(a, classes.fields[a]));
-                    }
-                    break;
-                case Code.ROW:
-                    makeRow((int) pop());
-                    break;
+                    return takeElement((int) pop(), pop());
                 case Code.AS:
-                    cast(pop(), a);
-                    break;
+                    return cast(pop(), a);
                 default:
-                    pushTruth(isOfClass(pop(), a));
-                    break;
+                    return pushTruth(isOfClass(pop(), a));
             }
         }
 
-        private void takeField(long object, int offset) {
+        private long takeField(long object, int offset) {
             if (object == 0) {
-                fault(NULL);
-            } else {
-                push(cells.at(object, offset));
+                return Heap.faultObject(NULL);
             }
+            push(cells.at(object, offset));
+            return NO_OBJECT;
         }
 
-        private void takeLength(long row) {
-            if (row == 0) {
-                fault(NULL);
-            } else {
-                push(Heap.number(cells.lengthOf(row)));
-            }
+        private long takeLength(long row) {
+            return row == 0 ? Heap.faultObject(NULL) : pushNumber(cells.lengthOf(row));
         }
 
-        private void takeElement(int i, long row) {
-            if (isElement(row, i)) {
+        private long takeElement(int i, long row) {
+            long fault = elementFault(i, row);
+            if (fault == NO_OBJECT) {
                 push(cells.at(row, i));
             }
+            return fault;
         }
 
-        private boolean isElement(long row, int i) {
+        private long elementFault(int i, long row) {
             if (row == 0) {
-                fault(NULL);
-                return false;
+                return Heap.faultObject(NULL);
             }
-            if (!cells.has(row, i)) {
-                fault(BOUNDS);
-                return false;
-            }
-            return true;
+            return cells.has(row, i) ? NO_OBJECT : Heap.faultObject(BOUNDS);
         }
 
-        private void makeRow(int length) {
-            if (length < 0) {
-                fault(SIZE);
-            } else if (findRoom(length)) {
-                push(cells.makeRow(length));
+        private long cast(long object, int c) {
+            if (object != 0 && !isOfClass(object, c)) {
+                return Heap.faultObject(CAST);
             }
-        }
-
-        private void cast(long object, int c) {
-            if (object == 0 || isOfClass(object, c)) {
-                push(object);
-            } else {
-                fault(CAST);
-            }
+            push(object);
+            return NO_OBJECT;
         }
 
         private boolean isOfClass(long object, int c) {
@@ -2377,164 +2384,145 @@ public final class ClassHouse {
         }
 
         /** Objects are moved together only when the room behind them is too small. */
-        private boolean findRoom(int words) {
+        private long make(int op, int c) {
+            int words = op == Code.ROW ? (int) pop() : classes.fields[c];
+            if (words < 0) {
+                return Heap.faultObject(SIZE);
+            }
             long wanted = (long) Heap.HEAD + words;
             if (!cells.hasRoom(wanted)) {
                 moveReached();
-                if (!cells.hasRoom(wanted)) {
-                    ended = NO_ROOM;
-                    return false;
-                }
+            }
+            if (!cells.hasRoom(wanted)) {
+                ended = NO_ROOM;
+                return NO_OBJECT;
             }
             made += (int) wanted;
-            return true;
+            push(cells.makeObject(op == Code.ROW ? Heap.ROW : c, words));
+            return NO_OBJECT;
         }
 
         private void moveReached() {
             cells.beginMoving();
             for (int f = 0; f < depth; f++) {
                 self[f] = cells.moved(self[f]);
-                int words = base[f] + members.slots[opened[f]];
-                int end = f + 1 < depth ? base[f + 1] : top;
-                moveWords(base[f], base[f] + code.variables[at[f]]);
-                moveWords(words, end);
+                int variablesEnd = base[f] + code.variables[at[f]];
+                for (int i = base[f]; i < variablesEnd && i < pile.length; i++) {
+                    pile[i] = cells.moved(pile[i]);
+                }
+                int partsEnd = f + 1 < depth ? base[f + 1] : top;
+                for (int i = base[f] + members.slots[opened[f]]; i < partsEnd; i++) {
+                    pile[i] = cells.moved(pile[i]);
+                }
             }
             cells.finishMoving();
         }
 
-        private void moveWords(int from, int to) {
-            for (int i = from; i < to && i < pile.length; i++) {
-                pile[i] = cells.moved(pile[i]);
-            }
-        }
-
-        private void actOneSided(int op) {
-            int value = (int) pop();
-            if (op == Code.MINUS) {
-                push(Heap.number(-value));
-            } else {
-                pushTruth(value == 0);
-            }
-        }
-
-        private void actTwoSided(int op) {
-            long rightWord = pop();
-            long leftWord = pop();
+        private long actSign(int op, long rightWord) {
             int right = (int) rightWord;
+            if (op == Code.MINUS) {
+                return pushNumber(-right);
+            }
+            if (op == Code.NOT) {
+                return pushTruth(right == 0);
+            }
+            long leftWord = pop();
             int left = (int) leftWord;
             switch (op) {
                 case Code.MULTIPLY:
-                    push(Heap.number(left * right));
-                    break;
+                    return pushNumber(left * right);
                 case Code.DIVIDE:
+                    return right == 0 ? Heap.faultObject(ZERO) : pushNumber(left / right);
                 case Code.REMAINDER:
-                    divide(op, left, right);
-                    break;
+                    return right == 0 ? Heap.faultObject(ZERO) : pushNumber(left % right);
                 case Code.ADD:
-                    push(Heap.number(left + right));
-                    break;
+                    return pushNumber(left + right);
                 case Code.SUBTRACT:
-                    push(Heap.number(left - right));
-                    break;
+                    return pushNumber(left - right);
                 case Code.LESS:
-                    pushTruth(left < right);
-                    break;
+                    return pushTruth(left < right);
                 case Code.AT_MOST:
-                    pushTruth(left <= right);
-                    break;
+                    return pushTruth(left <= right);
                 case Code.SAME:
-                    pushTruth(leftWord == rightWord);
-                    break;
+                    return pushTruth(leftWord == rightWord);
                 default:
-                    pushTruth(leftWord != rightWord);
-                    break;
+                    return pushTruth(leftWord != rightWord);
             }
         }
 
-        private void divide(int op, int left, int right) {
-            if (right == 0) {
-                fault(ZERO);
-            } else {
-                push(Heap.number(op == Code.DIVIDE ? left / right : left % right));
-            }
-        }
-
-        private void actJoin(int op, int target) {
+        private long actJoin(int op, int target) {
             boolean left = pop() != 0;
             if (left == (op == Code.OR)) {
                 pushTruth(left);
                 next = target;
             }
+            return NO_OBJECT;
         }
 
-        private void actGift(int op, int here) {
-            int a = code.a[here];
-            if (op == Code.CALL) {
-                call(a, code.b[here]);
-                return;
-            }
-            long word = pop();
+        private long actGift(int op, int a, long word) {
             switch (op) {
                 case Code.GIVE_FIELD:
-                    giveField(pop(), a, word);
-                    break;
+                    return giveField(pop(), a, word);
                 case Code.GIVE_ELEMENT:
-                    giveElement((int) pop(), pop(), word);
-                    break;
+                    return giveElement((int) pop(), pop(), word);
                 case Code.GIVE_OWN:
                     cells.put(self[depth - 1], a, word);
-                    break;
+                    return NO_OBJECT;
                 default:
                     pile[slot(a)] = word;
-                    break;
+                    return NO_OBJECT;
             }
         }
 
-        private void giveField(long object, int offset, long word) {
+        private long giveField(long object, int offset, long word) {
             if (object == 0) {
-                fault(NULL);
-            } else {
-                cells.put(object, offset, word);
+                return Heap.faultObject(NULL);
             }
+            cells.put(object, offset, word);
+            return NO_OBJECT;
         }
 
-        private void giveElement(int i, long row, long word) {
-            if (isElement(row, i)) {
+        private long giveElement(int i, long row, long word) {
+            long fault = elementFault(i, row);
+            if (fault == NO_OBJECT) {
                 cells.put(row, i, word);
             }
+            return fault;
         }
 
-        private void call(int name, int arguments) {
+        private long call(int name, int arguments) {
             int receiver = top - arguments - 1;
             long object = receiver >= 0 ? pile[receiver] : 0;
             if (object == 0) {
-                fault(NULL);
-            } else if (depth >= METHODS) {
-                ended = TOO_DEEP;
-            } else {
-                openMethod(members.had(cells.classOf(object), true, name), arguments);
+                return Heap.faultObject(NULL);
             }
+            openMethod(members.had(cells.classOf(object), true, name), arguments);
+            return NO_OBJECT;
         }
 
         /** The arguments on the pile become the first variables; what the call is of lies under them. */
         private void openMethod(int m, int arguments) {
             int from = top - arguments;
-            if (m < 0 || m >= members.size || from < 1 || depth >= METHODS) {
+            if (depth >= METHODS || m < 0 || from < 1) {
+                ended = TOO_DEEP;
+                return;
+            }
+            int wordsEnd = from + members.slots[m];
+            growPile(wordsEnd + members.depth[m] + 1);
+            if (wordsEnd >= pile.length) {
                 ended = TOO_DEEP;
                 return;
             }
             base[depth] = from;
             opened[depth] = m;
             self[depth] = pile[from - 1];
-            at[depth] = members.codeFrom[m];
             depth++;
+            top = wordsEnd;
             next = members.codeFrom[m];
-            top = from + members.slots[m];
-            growPile(top + members.depth[m] + 1);
         }
 
         private void growPile(int wanted) {
-            if (wanted > pile.length) {
+            if (wanted > pile.length && wanted <= MOST_PILE) {
                 pile = Arrays.copyOf(pile, Math.min(Math.max(wanted, pile.length * 2), MOST_PILE));
             }
         }
@@ -2551,26 +2539,26 @@ public final class ClassHouse {
             }
         }
 
-        private void actWork(int op, int target) {
+        private long actWork(int op, int target) {
             switch (op) {
                 case Code.IF:
                 case Code.WHILE:
                     if (pop() == 0) {
                         next = target;
                     }
-                    break;
+                    return NO_OBJECT;
                 case Code.RETURN:
                     closeMethod(0);
-                    break;
+                    return NO_OBJECT;
                 case Code.RETURN_VALUE:
                     closeMethod(pop());
-                    break;
+                    return NO_OBJECT;
                 case Code.THROW:
-                    throwWord(pop());
-                    break;
+                    long object = pop();
+                    return object == 0 ? Heap.faultObject(NULL) : object;
                 default:
                     print((int) pop());
-                    break;
+                    return NO_OBJECT;
             }
         }
 
@@ -2579,14 +2567,6 @@ public final class ClassHouse {
                 prints[printed] = value;
             }
             printed++;
-        }
-
-        private void fault(int kind) {
-            throwObject(Heap.faultObject(kind));
-        }
-
-        private void throwWord(long word) {
-            throwObject(word == 0 ? Heap.faultObject(NULL) : word);
         }
 
         private void throwObject(long object) {
