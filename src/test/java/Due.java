@@ -1,10 +1,24 @@
+import java.io.IOException;
 import java.nio.charset.StandardCharsets;
+import java.nio.file.Files;
+import java.nio.file.Path;
 
 /** What the tests share: answers that are due, and texts as calls of feed, end and program. */
 final class Due {
+    private static final Path DOCUMENT = Path.of("../shared/DOC.md");
+    // An object has 512 calls in all, so that a look at it must cost few of them.
+    private static final int[] OUTPUTS_SHOWN = {0, 1, 2, 499};
+
     private final String title;
+    private String document;
+    private String sentence = "";
     private int asked;
     private int wrong;
+
+    /** A call of an object that is made already. */
+    interface Call {
+        int answer();
+    }
 
     Due(String title) {
         this.title = title;
@@ -14,7 +28,55 @@ final class Due {
         asked++;
         if (got != want) {
             wrong++;
-            System.out.println(title + ": " + what + " answered " + got + ", due is " + want);
+            System.out.println(title + ": " + what + " answered " + got + ", due is " + want + sentence);
+        }
+    }
+
+    /** The answers from here on are about these words, which must stand in the document. */
+    void sentence(String words) {
+        if (document == null) {
+            document = readDocument();
+        }
+        is("the document has: " + words, document.contains(words) ? 1 : 0, 1);
+        sentence = " by: " + words;
+    }
+
+    private static String readDocument() {
+        try {
+            return Files.readString(DOCUMENT).replaceAll("\\s+", " ");
+        } catch (IOException e) {
+            return "";
+        }
+    }
+
+    /** The call must be refused with this answer, and nothing that other calls show may change. */
+    void refused(String what, ClassHouse x, Call call, int answer) {
+        int[] ahead = shown(x);
+        is(what, call.answer(), answer);
+        int[] behind = shown(x);
+        for (int i = 0; i < ahead.length; i++) {
+            is("look " + i + " behind " + what, behind[i], ahead[i]);
+        }
+    }
+
+    /** What the calls show that change nothing themselves. */
+    private static int[] shown(ClassHouse x) {
+        int[] seen = new int[10 + OUTPUTS_SHOWN.length];
+        for (int what = 0; what < 8; what++) {
+            seen[what] = x.count(what);
+        }
+        seen[8] = x.result();
+        seen[9] = x.step(0);
+        for (int i = 0; i < OUTPUTS_SHOWN.length; i++) {
+            seen[10 + i] = x.output(OUTPUTS_SHOWN[i]);
+        }
+        return seen;
+    }
+
+    /** The answers of count(0), count(1) and so on. */
+    void counts(String when, ClassHouse x, int... wanted) {
+        for (int what = 0; what < wanted.length; what++) {
+            is("count(" + what + ") " + when, x.count(what), wanted[what]);
         }
     }
 
@@ -76,6 +138,13 @@ final class Due {
             is("program: " + text, 0, 1);
         }
         x.start();
+        return x;
+    }
+
+    /** A house in whose run so many STEPS are done. */
+    ClassHouse stepped(String text, int steps) {
+        ClassHouse x = begun(text);
+        x.step(steps);
         return x;
     }
 
