@@ -32,16 +32,17 @@ final class Due {
         }
     }
 
-    /** The answers from here on are about these words, which must stand in the document. */
+    /** The answers from here on are about these words, which must stand in the document, if it is there. */
     void sentence(String words) {
         if (document == null) {
-            document = readDocument();
+            document = document();
         }
-        is("the document has: " + words, document.contains(words) ? 1 : 0, 1);
+        is("the document has: " + words, document.isEmpty() || document.contains(words) ? 1 : 0, 1);
         sentence = " by: " + words;
     }
 
-    private static String readDocument() {
+    /** The document with one blank between words, or an empty text. */
+    static String document() {
         try {
             return Files.readString(DOCUMENT).replaceAll("\\s+", " ");
         } catch (IOException e) {

@@ -2,7 +2,7 @@
 public final class EdgeRoomTest {
     private static final Due DUE = new Due("edges of ROOM and ENDS");
     // Main's object takes 12 cells, one of A 3, of B 5, of Z 2.
-    private static final String HEAD = "class Z { } class A { A n; int size() { return new ints[20].size; } int with(A p) { A q = p; p = null; return new ints[20].size; } }"
+    private static final String HEAD = "class Z { } class A { A n; int size() { return new ints[20].size; } A more() { return new A; } int with(A p) { A q = p; p = null; return new ints[20].size; } }"
         + " class B : A { int y; ints r; } class Main { A a; B b; ints r; bool t; int i; int j; int k; int l; int m; int o; A id(A p) { return p; }"
         + " int row() { return new ints[20].size; } int keep(ints p) { return new ints[20].size; } int drop(ints p) { p = null; return new ints[20].size; }"
         + " int deep(A p, int n) { A q = new A; if (n == 0) { return new ints[20].size; } return deep(q, n - 1); } int main() { ";
@@ -15,9 +15,11 @@ public final class EdgeRoomTest {
         blocksAndLoops();
         partsNotUsedYet();
         methodsThatAreOpen();
+        partsOfWaitingMethods();
         thrownObjects();
         noRoomDoesNoMore();
         reachedNow();
+        reachedAgain();
         hundredMethods();
         tooManyDoNoMore();
         ends();
@@ -153,6 +155,18 @@ public final class EdgeRoomTest {
         least("deep(null, 98);", 3 * 99 + 22);
     }
 
+    /** What a METHOD has there for its own parts is held while it waits for another one. */
+    private static void partsOfWaitingMethods() {
+        least("print new A == new A.more();", 9);
+        least("print new A == id(new A.more());", 9);
+        least("new B.n = new A.more();", 5 + 6);
+        least("print new ints[9].size + row();", 22);
+        least("print new ints[9][row() - 12];", 11 + 22);
+        least("new ints[9][row() - 12] = row();", 11 + 22);
+        DUE.prints(HEAD.replace("int row() {", "ints fill(int n) { ints p = new ints[n]; p[n - 1] = n; return p; } int many(int n) { while (0 < n) { n = n - 1; ints p = new ints[90]; } return 2; } int row() {")
+            + "print fill(3)[many(30)] + fill(4)[many(30) + 1]; b = new B; b.r = fill(6); b.r[many(30)] = many(30); print b.r[2]; print b.r[5]; print id(b) == id(b) && many(30) == 2; return 0; } }", 7, 2, 6, 1);
+    }
+
     private static void thrownObjects() {
         DUE.sentence("all within is left, the variable is set");
         least("try { throw new B; } catch (B v) { r = new ints[9]; }", 5 + 11);
@@ -184,6 +198,17 @@ public final class EdgeRoomTest {
         for (int i = 0; i < wanted.length; i++) {
             DUE.is("count(2) behind STEP " + i, x.count(2), wanted[i]);
             x.step(1);
+        }
+    }
+
+    /** Objects of 3 and of 2 cells in turn, with a look behind each STEP: nothing old may be reached. */
+    private static void reachedAgain() {
+        ClassHouse x = DUE.begun("class A { A n; } class Z { } class Main { int main() { while (true) { A a = new A; a.n = new A; a.n.n = a; a = null; Z z = new Z; z = null; } return 1; } }");
+        // true; while; new; told; a; new; given; a; .n; a; given; null; given; new; told; null; given
+        int[] wanted = {2, 2, 5, 5, 5, 8, 8, 8, 8, 8, 8, 8, 2, 4, 4, 4, 2};
+        for (int i = 0; i < 10 * wanted.length; i++) {
+            x.step(1);
+            DUE.is("count(2) behind STEP " + (i + 1), x.count(2), wanted[i % wanted.length]);
         }
     }
 

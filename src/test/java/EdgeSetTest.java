@@ -1,4 +1,5 @@
 import java.util.Arrays;
+import java.util.Random;
 
 /** Boundaries of SET and END: which way through blocks leaves a variable without a value. */
 public final class EdgeSetTest {
@@ -36,6 +37,9 @@ public final class EdgeSetTest {
         catchBegins();
         behindTheEnd();
         gone();
+        placesUsedAgain();
+        voidMethods();
+        anyWays();
         endsOfMethods();
         DUE.close();
     }
@@ -242,6 +246,141 @@ public final class EdgeSetTest {
         fine("if (t) { int n = 1; } bool n = t; print n && t;");
         DUE.fine(FIELD_HEAD + "if (t) { bool n = true; } return n; }" + MAIN, 1);
         bad("int n; if (t) { return 1; int k; } else { int k = 1; } ^print n;");
+    }
+
+    /** A variable that takes the place of ones that were SET in both BLOCKS is not SET itself. */
+    private static void placesUsedAgain() {
+        for (int ahead = 0; ahead <= 70; ahead++) {
+            StringBuilder text = new StringBuilder();
+            for (int v = 0; v < ahead; v++) {
+                text.append("int v").append(v).append("; ");
+            }
+            bad(text + "if (t) { int n = 1; } else { int n = 2; } int n; ^print n;");
+            bad(text + "try { int n = 1; } catch (Zero z) { } int n; ^print n;");
+            fine(text + "if (t) { int n = 1; } else { int n = 2; } int n; n = 3; print n;");
+        }
+    }
+
+    private static void voidMethods() {
+        DUE.sentence("A BLOCK can END, but: behind return, throw;");
+        DUE.fine("class Main { bool t; void f() { int n; if (t) { return; } else { n = 1; } print n; }" + MAIN, 1);
+        DUE.fine("class Main { bool t; void f() { int n; if (t) { return; print n; } }" + MAIN, 1);
+        DUE.fine("class Main { bool t; void f() { int n; try { n = 1; } catch (Zero z) { return; } print n; }" + MAIN, 1);
+        DUE.fine("class Main { bool t; void f() { int n; return; print n; }" + MAIN, 1);
+        DUE.badAt("class Main { bool t; void f() { int n; if (t) { return; } ^print n; }" + MAIN);
+        DUE.badAt("class Main { bool t; void f() { int n; while (t) { return; } ^print n; }" + MAIN);
+    }
+
+    /** Bodies at random, with what the rules for SET and END say of them. */
+    private static final class Way {
+        private static final int VARIABLES = 3;
+
+        private final Random random;
+        private final StringBuilder text = new StringBuilder();
+        private boolean[] set = new boolean[VARIABLES];
+        private boolean dead;
+        private int told;
+        private boolean marked;
+
+        Way(int seed) {
+            random = new Random(seed);
+            text.append("class Main { bool t; int f() { int v0; int v1; int v2; ");
+            statements(4, 3);
+        }
+
+        private void statements(int most, int depth) {
+            for (int i = random.nextInt(most + 1); i > 0 && !marked; i--) {
+                statement(depth);
+            }
+        }
+
+        private void statement(int depth) {
+            int kind = random.nextInt(depth > 0 ? 13 : 7);
+            int v = random.nextInt(VARIABLES);
+            if (kind < 3) {
+                text.append("v").append(v).append(" = 1; ");
+                set[v] = true;
+            } else if (kind == 3) {
+                text.append(random.nextBoolean() ? "return 1; " : "throw this; ");
+                dead = true;
+            } else if (kind == 4) {
+                told++;
+                text.append("int b").append(told).append(" = 1; ");
+            } else if (kind < 7) {
+                use(v);
+            } else if (kind < 9) {
+                alone(random.nextBoolean() ? "if (t)" : "while (t)", depth);
+            } else {
+                told++;
+                boolean branches = kind < 11;
+                pair(branches ? "if (t)" : "try", branches ? "else" : "catch (Zero z" + told + ")", depth);
+            }
+        }
+
+        /** A use that is BAD is the last word of the text that counts. */
+        private void use(int v) {
+            boolean fine = set[v] || dead;
+            if (fine || random.nextInt(6) == 0) {
+                text.append(fine ? "" : "^").append("print v").append(v).append("; ");
+                marked = !fine;
+            }
+        }
+
+        private void alone(String head, int depth) {
+            boolean[] setAhead = set.clone();
+            boolean deadAhead = dead;
+            block(head, depth);
+            set = setAhead;
+            dead = deadAhead;
+        }
+
+        private void pair(String first, String second, int depth) {
+            boolean[] setAhead = set.clone();
+            boolean deadAhead = dead;
+            block(first, depth);
+            boolean[] setBehind = set;
+            boolean deadBehind = dead;
+            set = setAhead.clone();
+            dead = deadAhead;
+            block(second, depth);
+            for (int v = 0; v < VARIABLES; v++) {
+                set[v] = (set[v] || dead) && (setBehind[v] || deadBehind);
+            }
+            dead = dead && deadBehind;
+        }
+
+        private void block(String head, int depth) {
+            text.append(head).append(" { ");
+            statements(3, depth - 1);
+            text.append("} ");
+        }
+    }
+
+    private static void anyWays() {
+        DUE.sentence("SET: a variable must be SET where its value is used.");
+        int marks = 0;
+        for (int seed = 0; seed < 3000; seed++) {
+            Way way = new Way(seed);
+            if (way.marked) {
+                DUE.badAt(way.text + "return 1; }" + MAIN);
+                marks++;
+                continue;
+            }
+            String ending = way.text + "^}" + MAIN;
+            if (way.dead) {
+                DUE.fine(ending.replace("^", ""), 1);
+            } else {
+                DUE.badAt(ending);
+                int v = seed % Way.VARIABLES;
+                String used = way.text + "^print v" + v + "; return 1; }" + MAIN;
+                if (way.set[v]) {
+                    DUE.fine(used.replace("^", ""), 1);
+                } else {
+                    DUE.badAt(used);
+                }
+            }
+        }
+        DUE.is("many are BAD within", marks > 300 ? 1 : 0, 1);
     }
 
     private static void endsOfMethods() {

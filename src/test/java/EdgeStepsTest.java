@@ -15,6 +15,7 @@ public final class EdgeStepsTest {
         calls();
         gifts();
         branches();
+        returns();
         silent();
         doneAtTheStep();
         fromTheLeft();
@@ -197,6 +198,15 @@ public final class EdgeStepsTest {
         work("try { throw this; } catch (Main z) { print 1; }", 4);
         DUE.is("return", DUE.ended(Due.main("return 1;"), 1).count(0), 2);
         DUE.is("return behind what is not reached", DUE.ended(Due.main("return 1; print 2; return 3;"), 1).count(0), 2);
+    }
+
+    /** return leaves its METHOD wherever it stands, with a value and without one. */
+    private static void returns() {
+        DUE.prints("class Main { void f(int n) { if (n == 1) { return; } print n; while (true) { n = n + 1; if (n == 5) { return; } } print 9; }"
+            + " void g() { try { return; } catch (Zero z) { print 9; } print 9; } int h(int n) { while (true) { if (n == 3) { return n; } n = n + 1; } return 9; }"
+            + " int k() { try { return 1 / 0; } catch (Zero z) { return 6; } } int main() { f(1); f(2); f(1); g(); print h(0) + h(3); print k(); return 0; } }", 2, 6, 6);
+        work("w(); w();", 4);
+        DUE.is("STEPS of an early return", DUE.ended("class Main { void f() { if (true) { return; } print 1; } int main() { f(); return 0; } }", 1).count(0), 1 + 3 + 2);
     }
 
     private static void silent() {

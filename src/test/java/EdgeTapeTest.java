@@ -10,10 +10,12 @@ public final class EdgeTapeTest {
         fullTape();
         refusedFeeds();
         ends();
+        cutWords();
         refusedEnds();
         places();
         classes();
         withoutProgram();
+        heapAndInputStay();
         calls();
         DUE.close();
     }
@@ -128,6 +130,26 @@ public final class EdgeTapeTest {
         DUE.is("program() of none", x.program(), -1);
     }
 
+    /** What end() cut off belongs to no word, though it would make the last one longer. */
+    private static void cutWords() {
+        cut("class Main { int main() { return 123456789", "0", -1 - 42);
+        cut("class Main { int main() { return 1 <", "= 2", -1 - 36);
+        cut("class Main { int main() { return 1 =", "= 2", -1 - 35);
+        cut("class Main { int main() { print true ", "&& true", -1 - 37);
+        cut("class Main { int main() { print true &", "& true", -1 - 37);
+        cut(PROGRAM + "class", "es", -1 - (PROGRAM.length() + 5));
+        cut(PROGRAM + "classe", "s", -1 - PROGRAM.length());
+        cut(PROGRAM, "x", 1);
+        cut(PROGRAM.substring(0, PROGRAM.length() - 1), "}", -1 - (PROGRAM.length() - 1));
+    }
+
+    private static void cut(String kept, String rest, int wanted) {
+        ClassHouse x = new ClassHouse();
+        Due.feed(x, (kept + rest).getBytes());
+        DUE.is("end() of " + kept, x.end(kept.length()), kept.length());
+        DUE.is("program() of " + kept, x.program(), wanted);
+    }
+
     private static void refusedEnds() {
         DUE.sentence("-1, and nothing is done: it has not so many, or n is below 0.");
         ClassHouse x = new ClassHouse();
@@ -195,6 +217,22 @@ public final class EdgeTapeTest {
             boolean fine = answers[i] > 0;
             DUE.is("start()", x.start(), fine ? 1 : 0);
             DUE.is("step(2)", x.step(2), fine ? 1 : -1);
+        }
+    }
+
+    private static void heapAndInputStay() {
+        String[] texts = {"class", "class Main { }", PROGRAM};
+        for (String text : texts) {
+            ClassHouse x = new ClassHouse();
+            x.heap(20);
+            x.input(16, 17, 5);
+            Due.load(x, text);
+            DUE.is("INPUT behind '" + text + "'", x.count(6), 3);
+            Due.load(x, Due.main("ints r = new ints[read]; return 1;"));
+            x.start();
+            DUE.is("a row that just fits behind '" + text + "'", x.step(10), 1);
+            x.start();
+            DUE.is("one that is too long", x.step(10), 3);
         }
     }
 

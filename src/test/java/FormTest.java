@@ -22,6 +22,9 @@ public final class FormTest {
     }
 
     private static void face() {
+        DUE.sentence("public final class ClassHouse { public ClassHouse(); public int feed(int a, int b, int c, int d, int e); public int end(int n); public int program();"
+            + " public int heap(int n); public int input(int a, int b, int c); public int start(); public int step(int n); public int result(); public int output(int i);"
+            + " public int count(int what); }");
         TreeSet<String> seen = new TreeSet<>();
         for (Method method : ClassHouse.class.getDeclaredMethods()) {
             if (!Modifier.isPrivate(method.getModifiers())) {

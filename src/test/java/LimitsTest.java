@@ -119,13 +119,14 @@ public final class LimitsTest {
 
     private static void silentLoops() {
         ClassHouse x = DUE.begun("class Main{void f(int n){if(n==0){}else{f(n-1);}}int main(){f(98);return 9;}}");
-        int end = 0;
-        int seen = 0;
-        for (int i = 0; i < 2000 && end == 0; i++) {
-            end = x.step(1);
-            seen = Math.max(seen, x.count(3));
-        }
-        DUE.is("all METHODS end at once", x.result(), 9);
-        DUE.is("100 were open", seen, 100);
+        // Two STEPS open f, and eight each time the next one.
+        x.step(2 + 98 * 8);
+        DUE.is("100 are open", x.count(3), 100);
+        x.step(3);
+        DUE.is("100 are open still", x.count(3), 100);
+        x.step(1);
+        DUE.is("all but main end at once", x.count(3), 1);
+        DUE.is("the end", x.step(2), 1);
+        DUE.is("result()", x.result(), 9);
     }
 }
