@@ -5,21 +5,21 @@ import java.nio.file.Path;
 import java.util.regex.Matcher;
 import java.util.regex.Pattern;
 
-/** Each sentence of the document, from its Terms on, is named by some test. */
+/** Each sentence of the document, from its first line to "Not promised", is named by some test. */
 public final class SentencesTest {
     private static final Due DUE = new Due("sentences");
     private static final String TEXT = "\"(?:[^\"\\\\]|\\\\.)*\"";
     private static final Pattern QUOTE = Pattern.compile("\\.sentence\\((" + TEXT + "(?:\\s*\\+\\s*" + TEXT + ")*)\\)");
-    // Headings, and words that say nothing by themselves.
+    // Headings, words that say nothing by themselves, and what is free.
     private static final Pattern NO_SENTENCE = Pattern.compile(
-        "(```(text)?|========|\\d (TEXTS|CHECKING|RUNNING)\\.|## Terms|## Promise \\d+: [\\w ]+`[^`]*`:|WORDS:|of:|[,;]|\\s)*");
+        "(# ClassHouse|## (What it is|The public face|Terms)|```(java|text)?|========|\\d (TEXTS|CHECKING|RUNNING)\\.|## Promise \\d+: [\\w ]+`[^`]*`:"
+        + "|what later calls answer is free\\.|WORDS:|of:|[,;]|\\s)*");
 
     public static void main(String[] args) throws IOException {
         String document = Due.document();
-        int from = document.indexOf("## Terms");
         int to = document.indexOf("## Not promised");
-        if (from >= 0 && to > from) {
-            look(document.substring(from, to));
+        if (to > 0) {
+            look(document.substring(0, to));
         } else {
             DUE.is("the document is not there or has another form: nothing to look at", 1, 1);
         }
